@@ -55,16 +55,13 @@ public final class BowHouse {
     private static final int READ = 117;
     private static final int WORD_COUNT = 18;
     private static final int WORD_LENGTH = 8;
-    private static final String WORDS =
-            "member  clause  winds   cock    quota   puns    draw    in      out     "
-            + "or      and     not     sharp   minds   votes   notch   falling read    ";
+    private static final int MOST_DIGITS = 4;
+    private static final String WORDS = "member  clause  winds   cock    quota   puns    draw    in      out     or      and     not     sharp   minds   votes   notch   falling read    ";
     private static final String SIGNS = ";()<>=+-*/%";
 
     private static final int[] FACTORIALS = {1, 1, 2, 6, 24, 120, 720, 5040};
 
-    private final byte[] tape = new byte[MOST_BYTES];
-    private int fed;
-    private final Parser parser = new Parser(tape);
+    private final Parser parser = new Parser();
     private House told = new House();
     // The next text is told into this one, so that a FAULT leaves the other as it is.
     private House draft = new House();
@@ -84,34 +81,33 @@ public final class BowHouse {
         for (int i = 0; i < BOXES; i++) {
             boxes[i] = new State();
         }
-        hearsay.restart(told);
     }
 
     public int feed(int a, int b, int c, int d, int e) {
-        if (fed + 20 > MOST_BYTES) {
+        if (parser.length + 20 > MOST_BYTES) {
             return NONE;
         }
-        putBytes(a);
-        putBytes(b);
-        putBytes(c);
-        putBytes(d);
-        putBytes(e);
-        return fed;
+        parser.put(a);
+        parser.put(b);
+        parser.put(c);
+        parser.put(d);
+        parser.put(e);
+        return parser.length;
     }
 
     public int end(int n) {
-        if (n < 0 || n > fed) {
+        if (n < 0 || n > parser.length) {
             return NONE;
         }
-        fed = n;
+        parser.length = n;
         return n;
     }
 
     public int house() {
-        int length = fed;
-        fed = 0;
         draft.clear();
-        if (!parser.tell(length, draft)) {
+        boolean isTold = parser.tell(draft);
+        parser.length = 0;
+        if (!isTold) {
             return NONE;
         }
         House old = told;
@@ -557,15 +553,17 @@ public final class BowHouse {
     }
 
     public int sure(int what, int k) {
-        int fitting = hearsay.fitting(k);
-        if (fitting == 0) {
+        if (what != 0 && what != 1) {
             return NONE;
         }
-        switch (what) {
-            case 0: return Integer.numberOfTrailingZeros(fitting);
-            case 1: return 31 - Integer.numberOfLeadingZeros(fitting);
-            default: return NONE;
+        int fitting = hearsay.fitting(k);
+        int best = NONE;
+        for (int minds = 0; minds <= MOST_MINDS; minds++) {
+            if (has(fitting, minds) && (what == 1 || best == NONE)) {
+                best = minds;
+            }
         }
+        return best;
     }
 
     public int ask(int what, int k) {
@@ -614,20 +612,13 @@ public final class BowHouse {
             case 6: return history.undone;
             case 7: return hearsay.count;
             case 8: return hearsay.time;
-            case 9: return fed;
+            case 9: return parser.length;
             case 10: return told.formula.units;
             case 11: return lyingCount;
             case 12: return told.cock;
             case 13: return told.quota;
             case 14: return told.puns;
             default: return NONE;
-        }
-    }
-
-    private void putBytes(int number) {
-        for (int shift = 24; shift >= 0 && fed < MOST_BYTES; shift -= 8) {
-            tape[fed] = (byte) (number >>> shift);
-            fed++;
         }
     }
 
@@ -758,10 +749,12 @@ public final class BowHouse {
 
     /** What winds tells, as steps over a stack: a number is itself, all else less than 0, its TOKEN's kind. */
     private static final class Formula {
-        final int[] steps = new int[MOST_STEPS];
-        final int[] stack = new int[MOST_UNITS];
         int length;
         int units;
+        // What sharp, minds, votes, notch, falling, read are, in this order.
+        final int[] given = new int[READ - SHARP + 1];
+        private final int[] steps = new int[MOST_STEPS];
+        private final int[] stack = new int[MOST_UNITS];
 
         void clear() {
             length = 0;
@@ -775,8 +768,7 @@ public final class BowHouse {
             }
         }
 
-        /** given: what sharp, minds, votes, notch, falling, read are. */
-        int value(int[] given) {
+        int value() {
             int top = 0;
             for (int i = 0; i < length; i++) {
                 int step = steps[i];
@@ -827,7 +819,6 @@ public final class BowHouse {
         int puns;
         int draw;
         final Formula formula = new Formula();
-        private final int[] given = new int[READ - SHARP + 1];
 
         House() {
             clear();
@@ -880,13 +871,13 @@ public final class BowHouse {
             if (formula.length == 0) {
                 wind = (howSharp + hisMinds) / 3 - falling * 2;
             } else {
-                given[0] = howSharp;
-                given[MINDS - SHARP] = hisMinds;
-                given[VOTES - SHARP] = votes[member];
-                given[NOTCH - SHARP] = notch;
-                given[FALLING - SHARP] = falling;
-                given[READ - SHARP] = alreadyRead;
-                wind = formula.value(given);
+                formula.given[0] = howSharp;
+                formula.given[MINDS - SHARP] = hisMinds;
+                formula.given[VOTES - SHARP] = votes[member];
+                formula.given[NOTCH - SHARP] = notch;
+                formula.given[FALLING - SHARP] = falling;
+                formula.given[READ - SHARP] = alreadyRead;
+                wind = formula.value();
             }
             return Math.max(Math.max(-9, -notch), Math.min(9, wind));
         }
@@ -951,12 +942,12 @@ public final class BowHouse {
         }
     }
 
-    /** Tells a House what stands on the tape; of the latest text it knows the first FAULT and its place. */
+    /** Has the TAPE and tells a House what stands there; of the latest text it knows the first FAULT and its place. */
     private static final class Parser {
+        int length;
         int fault;
         int place = NONE;
-        private final byte[] text;
-        private int length;
+        private final byte[] tape = new byte[MOST_BYTES];
         private final long[] memberNames = new long[MOST_MEMBERS];
         private final long[] clauseNames = new long[MOST_CLAUSES];
         private int toldOnce;
@@ -968,12 +959,14 @@ public final class BowHouse {
         private int number;
         private long name;
 
-        Parser(byte[] tape) {
-            text = tape;
+        void put(int number) {
+            for (int shift = 24; shift >= 0 && length < MOST_BYTES; shift -= 8) {
+                tape[length] = (byte) (number >>> shift);
+                length++;
+            }
         }
 
-        boolean tell(int bytes, House into) {
-            length = Math.max(0, Math.min(bytes, text.length));
+        boolean tell(House into) {
             fault = 0;
             place = NONE;
             toldOnce = 0;
@@ -1193,18 +1186,18 @@ public final class BowHouse {
 
         private void advance() {
             start = behind;
-            while (start < length && (text[start] == ' ' || text[start] == '\n')) {
+            while (start < length && (tape[start] == ' ' || tape[start] == '\n')) {
                 start++;
             }
             behind = start;
             if (start >= length) {
                 kind = TEXT_END;
-            } else if (isLetter(start)) {
+            } else if (isLetter(tape[start])) {
                 scanWord();
-            } else if (isDigit(start)) {
+            } else if (isDigit(tape[start])) {
                 scanNumber();
             } else {
-                char sign = (char) (text[start] & 255);
+                char sign = (char) (tape[start] & 255);
                 kind = SIGNS.indexOf(sign) >= 0 ? sign : NO_TOKEN;
                 behind = start + 1;
             }
@@ -1212,9 +1205,9 @@ public final class BowHouse {
 
         private void scanWord() {
             name = 0;
-            while (isLetter(behind)) {
+            while (behind < length && isLetter(tape[behind])) {
                 // Five bits a letter: eight of them tell a NAME whole.
-                name = name << 5 | text[behind] & 31;
+                name = name << 5 | tape[behind] & 31;
                 behind++;
             }
             kind = behind - start > WORD_LENGTH ? NO_TOKEN : NAME;
@@ -1227,7 +1220,7 @@ public final class BowHouse {
 
         private boolean spells(int word) {
             for (int i = 0; i < WORD_LENGTH; i++) {
-                int letter = start + i < behind ? text[start + i] : ' ';
+                int letter = start + i < behind ? tape[start + i] : ' ';
                 if (WORDS.charAt(word * WORD_LENGTH + i) != letter) {
                     return false;
                 }
@@ -1237,19 +1230,20 @@ public final class BowHouse {
 
         private void scanNumber() {
             number = 0;
-            while (isDigit(behind)) {
-                number = number * 10 + text[behind] - '0';
+            while (behind < length && isDigit(tape[behind])) {
+                number = number * 10 + tape[behind] - '0';
                 behind++;
             }
-            kind = behind - start > 4 || isLetter(behind) ? NO_TOKEN : NUMBER;
+            boolean letterBehind = behind < length && isLetter(tape[behind]);
+            kind = behind - start > MOST_DIGITS || letterBehind ? NO_TOKEN : NUMBER;
         }
 
-        private boolean isLetter(int at) {
-            return at >= 0 && at < length && text[at] >= 'a' && text[at] <= 'z';
+        private static boolean isLetter(byte sign) {
+            return sign >= 'a' && sign <= 'z';
         }
 
-        private boolean isDigit(int at) {
-            return at >= 0 && at < length && text[at] >= '0' && text[at] <= '9';
+        private static boolean isDigit(byte sign) {
+            return sign >= '0' && sign <= '9';
         }
     }
 
