@@ -56,6 +56,9 @@ public final class BowHouse {
     private static final int WORD_COUNT = 18;
     private static final int WORD_LENGTH = 8;
     private static final int MOST_DIGITS = 4;
+    // The five low bits tell the letters apart, so a long holds a word of eight whole.
+    private static final int LETTER_BITS = 5;
+    private static final int LETTER_MASK = 31;
     private static final String WORDS = "member  clause  winds   cock    quota   puns    draw    in      out     or      and     not     sharp   minds   votes   notch   falling read    ";
     private static final String SIGNS = ";()<>=+-*/%";
 
@@ -958,6 +961,16 @@ public final class BowHouse {
         private int behind;
         private int number;
         private long name;
+        private final long[] wordCodes = new long[WORD_COUNT];
+
+        Parser() {
+            for (int i = 0; i < WORD_COUNT * WORD_LENGTH; i++) {
+                char letter = WORDS.charAt(i);
+                if (letter != ' ') {
+                    wordCodes[i / WORD_LENGTH] = wordCodes[i / WORD_LENGTH] << LETTER_BITS | letter & LETTER_MASK;
+                }
+            }
+        }
 
         void put(int number) {
             for (int shift = 24; shift >= 0 && length < MOST_BYTES; shift -= 8) {
@@ -973,22 +986,18 @@ public final class BowHouse {
             behind = 0;
             advance();
             for (int i = 0; i <= MOST_BYTES && fault == 0 && kind != TEXT_END; i++) {
-                line(into);
+                switch (kind) {
+                    case MEMBER: memberLine(into); break;
+                    case CLAUSE: clauseLine(into); break;
+                    case WINDS: formulaLine(into.formula); break;
+                    case COCK: into.cock = numberLine(1, 30); break;
+                    case QUOTA: into.quota = numberLine(0, 99); break;
+                    case PUNS: into.puns = numberLine(0, 100); break;
+                    case DRAW: into.draw = numberLine(0, 999); break;
+                    default: refuse(); break;
+                }
             }
             return fault == 0;
-        }
-
-        private void line(House into) {
-            switch (kind) {
-                case MEMBER: memberLine(into); break;
-                case CLAUSE: clauseLine(into); break;
-                case WINDS: formulaLine(into.formula); break;
-                case COCK: into.cock = numberLine(1, 30); break;
-                case QUOTA: into.quota = numberLine(0, 99); break;
-                case PUNS: into.puns = numberLine(0, 100); break;
-                case DRAW: into.draw = numberLine(0, 999); break;
-                default: refuse(); break;
-            }
         }
 
         private void memberLine(House into) {
@@ -1206,26 +1215,15 @@ public final class BowHouse {
         private void scanWord() {
             name = 0;
             while (behind < length && isLetter(tape[behind])) {
-                // Five bits a letter: eight of them tell a NAME whole.
-                name = name << 5 | tape[behind] & 31;
+                name = name << LETTER_BITS | tape[behind] & LETTER_MASK;
                 behind++;
             }
             kind = behind - start > WORD_LENGTH ? NO_TOKEN : NAME;
             for (int word = 0; word < WORD_COUNT && kind == NAME; word++) {
-                if (spells(word)) {
+                if (wordCodes[word] == name) {
                     kind = FIRST_WORD + word;
                 }
             }
-        }
-
-        private boolean spells(int word) {
-            for (int i = 0; i < WORD_LENGTH; i++) {
-                int letter = start + i < behind ? tape[start + i] : ' ';
-                if (WORDS.charAt(word * WORD_LENGTH + i) != letter) {
-                    return false;
-                }
-            }
-            return true;
         }
 
         private void scanNumber() {
