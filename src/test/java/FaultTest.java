@@ -83,6 +83,26 @@ public final class FaultTest {
         }
     }
 
+    /** What was fed and cut off again is no part of the text. */
+    private static void cut(String text, int length, int which, int place) {
+        BowHouse x = new BowHouse();
+        byte[] bytes = text.getBytes(java.nio.charset.StandardCharsets.ISO_8859_1);
+        int[] f = Checks.fiveNumbers(bytes, 0);
+        x.feed(f[0], f[1], f[2], f[3], f[4]);
+        x.end(length);
+        x.house();
+        T.due("fault of " + text + " cut", x.fault(0), which);
+        T.due("place of " + text + " cut", x.fault(1), place);
+    }
+
+    private static void cutTexts() {
+        cut("cock 55", 6, 2, 6);
+        cut("cock 5a", 6, 2, 6);
+        cut("cock 5;", 3, 2, 0);
+        cut("cock 5;cockcockco", 7, 0, -1);
+        cut("quota 1;abcdefghij", 11, 2, 8);
+    }
+
     private static void numbers() {
         fine("member a in minds 0 votes 0;member b out minds 9 votes 9;clause p sharp 0;clause q sharp 20;cock 1;quota 0;puns 0;draw 0;");
         fine("cock 30;quota 99;puns 100;draw 999;");
@@ -169,6 +189,7 @@ public final class FaultTest {
     public static void main(String[] args) {
         tokens();
         places();
+        cutTexts();
         numbers();
         names();
         tooMany();

@@ -258,6 +258,35 @@ public final class PromiseTest {
         T.due("12 lies are no act's", x.about(11), 0);
     }
 
+    /** Each act brings another state, so that a row kept at a wrong place is seen. */
+    private static void manyActs() {
+        BowHouse x = Checks.told("member a out minds 0 votes 0;member b out minds 0 votes 0;member c out minds 0 votes 0;"
+                + "clause p sharp 9;clause q sharp 9;clause r sharp 9;winds sharp;cock 30;draw 1;");
+        for (int c = 0; c < 3; c++) x.read(c, false);
+        for (int i = 0; i < 67; i++) {
+            T.due("10 oil " + i, x.oil(i % 3), 26 - i / 3);
+            T.due("12 kept behind " + i, x.about(5), Math.min(40, 4 + i));
+        }
+        int all = 81 - 67;
+        for (int i = 1; i <= 40; i++) {
+            T.due("12 undo " + i, x.undo(), true);
+            T.due("12 notches", x.member(0, 3) + x.member(1, 3) + x.member(2, 3), all + i);
+            T.due("12 left", x.about(5), 40 - i);
+            T.due("13 to redo", x.about(6), i);
+        }
+        T.due("12 the oldest are gone", x.undo(), false);
+        for (int i = 39; i >= 20; i--) {
+            T.due("13 redo " + i, x.redo(), true);
+            T.due("13 notches", x.member(0, 3) + x.member(1, 3) + x.member(2, 3), all + i);
+        }
+        T.due("11 another act", x.change(), 0);
+        T.due("13 nothing to redo", x.redo(), false);
+        T.due("12 undoable", x.about(5), 21);
+        for (int i = 0; i < 21; i++) T.due("12 undo", x.undo(), true);
+        T.due("12 as 40 acts ago", x.member(0, 3) + x.member(1, 3) + x.member(2, 3), all + 40);
+        T.due("12 no more", x.undo(), false);
+    }
+
     private static void wouldBe() {
         BowHouse x = Checks.told(STEADY);
         T.due("14 carries", x.carries(0, false), 1);
@@ -317,6 +346,11 @@ public final class PromiseTest {
         T.due("19 what", x.tones(-1), -1);
         T.due("20 p is lost", x.lost(false), 0);
         T.due("20 none", x.lost(true), -1);
+        // p and q falling (1, 2, 4) or r falling (2, 4, 3): all are carried; one is fewer than two
+        BowHouse y = Checks.told("member a out minds 0 votes 1;clause p sharp 3;clause q sharp 3;clause r sharp 4;"
+                + "winds (sharp=3)*2-(sharp=3)*falling+(sharp=4)*(2-falling*3);cock 9;");
+        T.due("19 r alone", y.tones(1), 4);
+        T.due("19 all three", y.tones(0), 3);
         x.read(0, true);
         T.due("18 of those read alone", x.agenda(false), 2);
         T.due("18 q", x.lies(0), 1);
@@ -499,6 +533,10 @@ public final class PromiseTest {
         T.due("29 none such", w.drops(-1, false), -1);
         BowHouse v = Checks.told("member a out minds 0 votes 0;clause p sharp 0;winds 9;cock 9;quota 0;");
         T.due("29 he goes off from 0, too", v.drops(0, false), -1);
+        BowHouse t = Checks.told("member a out minds 9 votes 0;member b out minds 4 votes 0;clause p sharp 0;clause q sharp 0;"
+                + "winds minds*(read=0)+(read=1)*(minds=9)*9+(read=1)*(minds=4)*5;cock 9;quota 0;");
+        t.read(0, false);
+        T.due("29 b could, a goes off all the same", t.drops(1, false), -1);
         // who has less may wind more: 3 notches wind 0, fewer wind 9
         BowHouse u = Checks.told("member a out minds 0 votes 0;clause p sharp 3;clause q sharp 0;winds (read=0)*3+(read>0)*(notch<3)*9;cock 9;quota 0;");
         u.read(0, false);
@@ -664,6 +702,16 @@ public final class PromiseTest {
         T.due("49 the last was in", y.ask(0, 0), -1);
         y.change();
         T.due("44 as told", y.heard(0, 0, true), -1);
+        // only the sixth clause tells what he minds
+        BowHouse w = Checks.told("member z out minds 3 votes 0;clause p sharp 0;clause q sharp 0;clause r sharp 0;clause s sharp 0;"
+                + "clause t sharp 0;clause u sharp 1;winds sharp*minds;cock 30;");
+        T.due("49 behind all six", w.ask(0, 0), 6);
+        T.due("49 9 .. 20 wind 9", w.ask(1, 0), 12);
+        BowHouse v = Checks.told("member z out minds 3 votes 0;clause p sharp 0;winds minds>19;");
+        v.heard(1, 1, true);
+        T.due("47 20 alone", v.fits(0), 1);
+        T.due("48 20", v.sure(0, 0), 20);
+        T.due("49 one is left", v.ask(1, 0), 1);
         T.due("49 no clauses: nothing to be learnt", Checks.told("member z out minds 3 votes 0;").ask(1, 0), 21);
         T.due("49 the least n", Checks.told("member z out minds 3 votes 0;").ask(0, 0), 0);
     }
@@ -751,6 +799,7 @@ public final class PromiseTest {
         read();
         oilAndChange();
         undoRedo();
+        manyActs();
         wouldBe();
         will();
         agendaAndTones();
