@@ -16,13 +16,13 @@ public final class ActEdges {
 
     /** One who is out, of no votes, at six clauses. */
     private static BowHouse one(String winds, String more) {
-        return Checks.told("member a out minds 0 votes 0;" + Houses.clauses(6, 0) + "winds " + winds + ";" + more);
+        return Houses.told("member a out minds 0 votes 0;" + Houses.clauses(6, 0) + "winds " + winds + ";" + more);
     }
 
     private void sides() {
         s.terms();
         s.says("A MEMBER is IN or OUT (as told, at first).");
-        BowHouse x = Checks.told("member a in minds 1 votes 2;member b out minds 3 votes 4;clause p sharp 5;clause q sharp 5;");
+        BowHouse x = Houses.told("member a in minds 1 votes 2;member b out minds 3 votes 4;clause p sharp 5;clause q sharp 5;");
         s.due("in", x.member(0, 0), 0);
         s.due("out", x.member(1, 0), 1);
         s.due("outs", x.outs(), 2);
@@ -37,7 +37,7 @@ public final class ActEdges {
         s.due("not carried", x.clause(1, 2), 0);
         s.due("read", x.clause(0, 1), 1);
         s.due("carried", x.clause(0, 2), 1);
-        BowHouse y = Checks.told("member a in minds 1 votes 2;clause p sharp 5;quota 3;");
+        BowHouse y = Houses.told("member a in minds 1 votes 2;clause p sharp 5;quota 3;");
         y.read(0, false);
         s.due("read", y.clause(0, 1), 1);
         s.due("lost", y.clause(0, 2), 0);
@@ -46,7 +46,7 @@ public final class ActEdges {
     private void winding() {
         s.terms();
         s.says("He WINDS at a CLAUSE, on a tone plain or FALLING, by what comes of winds ((sharp + minds) / 3 - falling * 2, if it is not told)");
-        BowHouse x = Checks.told("member a out minds 9 votes 0;member b out minds 2 votes 0;member c out minds 0 votes 0;"
+        BowHouse x = Houses.told("member a out minds 9 votes 0;member b out minds 2 votes 0;member c out minds 0 votes 0;"
                 + "clause p sharp 20;clause q sharp 0;clause r sharp 1;cock 30;");
         s.due("29 / 3", x.winds(0, 0, false), 9);
         s.due("29 / 3 - 2", x.winds(0, 0, true), 7);
@@ -57,7 +57,7 @@ public final class ActEdges {
         x.read(0, false);
         s.due("3 / 3 - 2 of 7", x.winds(1, 2, true), -1);
         s.due("0 - 2 of 6", x.winds(2, 1, true), -2);
-        BowHouse told = Checks.told("member a out minds 9 votes 0;clause p sharp 20;winds 0;");
+        BowHouse told = Houses.told("member a out minds 9 votes 0;clause p sharp 20;winds 0;");
         s.due("0, if told", told.winds(0, 0, false), 0);
 
         s.says("by sharp (of the CLAUSE), minds, votes (his), notch (his NOTCHES ahead of it), falling (1, or 0 of a plain tone),"
@@ -66,19 +66,19 @@ public final class ActEdges {
         String[] inputs = {"sharp", "minds", "votes", "notch", "falling", "read"};
         int[][] plain = {{5, 6, 5, 6}, {1, 1, 3, 3}, {2, 2, 4, 4}, {0, 0, 0, 0}, {0, 0, 0, 0}, {0, 0, 0, 0}};
         for (int i = 0; i < inputs.length; i++) {
-            BowHouse y = Checks.told(two + inputs[i] + ";");
+            BowHouse y = Houses.told(two + inputs[i] + ";");
             for (int k = 0; k < 4; k++) {
                 s.due(inputs[i] + " " + k, y.winds(k / 2, k % 2, false), plain[i][k]);
                 s.due(inputs[i] + " falling " + k, y.winds(k / 2, k % 2, true), i == 4 ? 1 : plain[i][k]);
             }
         }
-        BowHouse y = Checks.told(two + "notch+minds;");
+        BowHouse y = Houses.told(two + "notch+minds;");
         y.read(0, false);
         s.due("notch of a", y.winds(0, 1, false), 2);
         s.due("notch of b", y.winds(1, 1, false), 6);
         y.read(1, false);
         s.due("notch ahead of it", y.member(1, 3), 9);
-        BowHouse z = Checks.told(two + "read+1;");
+        BowHouse z = Houses.told(two + "read+1;");
         z.read(1, false);
         s.due("none read ahead of it", z.member(0, 3), 1);
         s.due("one read", z.winds(0, 0, false), 2);
@@ -120,6 +120,8 @@ public final class ActEdges {
         value("(0-1)<0", 1);
         value("8192*8192*32<1", 1);
         value("not 0", 1);
+        s.due("winds not 0, and no more", one("not 0", "").winds(0, 0, false), 1);
+        s.due("winds not 7, and no more", one("not 7", "").winds(0, 0, false), 0);
         value("not 5", 0);
         value("not (0-5)", 0);
         value("2 and 3", 1);
@@ -156,7 +158,7 @@ public final class ActEdges {
     private void reading() {
         s.terms();
         s.says("A READING of a CLAUSE that is not READ: MEMBER by MEMBER who is OUT WINDS;");
-        BowHouse x = Checks.told(STEADY);
+        BowHouse x = Houses.told(STEADY);
         s.due("read", x.read(2, false), 1);
         s.due("a", x.member(0, 3), 1);
         s.due("b is in", x.member(1, 3), 0);
@@ -170,7 +172,7 @@ public final class ActEdges {
         String pair = "member a out minds 7 votes 0;member b out minds 8 votes 0;member c out minds 9 votes 0;clause p sharp 0;winds minds;quota 0;cock ";
         int[][] offs = {{7, 7}, {8, 6}, {9, 4}, {10, 0}};
         for (int[] row : offs) {
-            BowHouse y = Checks.told(pair + row[0] + ";");
+            BowHouse y = Houses.told(pair + row[0] + ";");
             s.due("who goes off at cock " + row[0], y.shots(0, false), row[1]);
             s.due("carried", y.read(0, false), row[1] == 0 ? 1 : 0);
             for (int i = 0; i < 3; i++) s.due("notches of " + i, y.member(i, 3), (row[1] >> i & 1) == 1 ? 0 : 7 + i);
@@ -190,7 +192,7 @@ public final class ActEdges {
         String sides = "member a in minds 9 votes 0;member b out minds 0 votes 0;member c out minds 4 votes 0;member d out minds 5 votes 0;"
                 + "member e out minds 9 votes 0;clause p sharp 0;winds minds;cock ";
         int[][] fors = {{1, 3}, {7, 3}, {8, 3}, {9, 7}, {10, 7}, {11, 15}, {18, 15}, {19, 31}, {30, 31}};
-        for (int[] row : fors) s.due("who is for it at cock " + row[0], Checks.told(sides + row[0] + ";").backers(0, false), row[1]);
+        for (int[] row : fors) s.due("who is for it at cock " + row[0], Houses.told(sides + row[0] + ";").backers(0, false), row[1]);
         BowHouse half = Houses.bows("0-1", "", 15, 16, 14);
         s.due("behind the winding", half.backers(3, false), 5);
 
@@ -198,20 +200,20 @@ public final class ActEdges {
         String votes = "member a in minds 0 votes 3;member b out minds 0 votes 2;member c out minds 9 votes 9;clause p sharp 0;winds minds;";
         int[][] quotas = {{0, 1}, {4, 1}, {5, 1}, {6, 0}, {14, 0}};
         for (int[] row : quotas) {
-            BowHouse z = Checks.told(votes + "cock 10;quota " + row[0] + ";");
+            BowHouse z = Houses.told(votes + "cock 10;quota " + row[0] + ";");
             s.due("read, quota " + row[0], z.read(0, false), row[1]);
             s.due("is read", z.about(2), 1);
             s.due("is carried", z.about(3), row[1]);
         }
-        BowHouse shot = Checks.told(votes + "cock 9;quota 0;");
+        BowHouse shot = Houses.told(votes + "cock 9;quota 0;");
         s.due("one goes off", shot.read(0, false), 0);
         s.due("is read", shot.about(2), 1);
         s.due("is lost", shot.about(3), 0);
         s.due("nobody for it, quota 0", one("5", "quota 0;").read(0, false), 1);
-        s.due("nobody at all, quota 0", Checks.told("clause p sharp 1;quota 0;").read(0, false), 1);
-        s.due("nobody at all, quota 1", Checks.told("clause p sharp 1;").read(0, false), 0);
-        s.due("99 of 63", Checks.told(Houses.members(7, "in", 9) + "clause p sharp 1;quota 64;").read(0, false), 0);
-        s.due("63 of 63", Checks.told(Houses.members(7, "in", 9) + "clause p sharp 1;quota 63;").read(0, false), 1);
+        s.due("nobody at all, quota 0", Houses.told("clause p sharp 1;quota 0;").read(0, false), 1);
+        s.due("nobody at all, quota 1", Houses.told("clause p sharp 1;").read(0, false), 0);
+        s.due("99 of 63", Houses.told(Houses.members(7, "in", 9) + "clause p sharp 1;quota 64;").read(0, false), 0);
+        s.due("63 of 63", Houses.told(Houses.members(7, "in", 9) + "clause p sharp 1;quota 63;").read(0, false), 1);
     }
 
     private void puns() {
@@ -229,7 +231,7 @@ public final class ActEdges {
         s.says("and if its rest by 100 is less than puns tells, each who is OUT has 1 NOTCH more");
         int[][] rows = {{0, 71, 0}, {0, 72, 1}, {0, 70, 0}, {817, 0, 0}, {817, 1, 1}, {744, 99, 0}, {744, 100, 1}, {9, 4, 0}, {9, 5, 1}};
         for (int[] row : rows) {
-            BowHouse y = Checks.told("member a out minds 0 votes 0;member b in minds 0 votes 0;member c out minds 0 votes 0;" + Houses.clauses(1, 0)
+            BowHouse y = Houses.told("member a out minds 0 votes 0;member b in minds 0 votes 0;member c out minds 0 votes 0;" + Houses.clauses(1, 0)
                     + "winds 3;draw " + row[0] + ";puns " + row[1] + ";");
             y.read(0, false);
             s.due("draw " + row[0] + " puns " + row[1], y.member(0, 3), 3 + row[2]);
@@ -253,7 +255,7 @@ public final class ActEdges {
     private void acts() {
         s.terms();
         s.says("ACTS: a READING; OIL (one who is OUT has 1 NOTCH less);");
-        BowHouse x = Checks.told(STEADY);
+        BowHouse x = Houses.told(STEADY);
         s.due("none", x.about(5), 0);
         x.read(0, false);
         s.due("a reading", x.about(5), 1);
@@ -265,7 +267,7 @@ public final class ActEdges {
         s.due("b", x.change(), 2);
         s.due("a change", x.about(5), 3);
         s.due("a and c", x.change(), 5);
-        BowHouse seven = Checks.told(Houses.members(7, "out", 1));
+        BowHouse seven = Houses.told(Houses.members(7, "out", 1));
         s.due("nobody", seven.change(), 0);
         s.due("all seven", seven.change(), 127);
         s.says("those who are OUT then have, in their order, the BOWS of those who were OUT, in theirs"
@@ -276,7 +278,7 @@ public final class ActEdges {
         handOver("too many", "ooio", new int[] {1, 2, 0, 4}, new int[] {0, 0, 1, 0});
         handOver("none", "iiwi", new int[] {0, 0, 0, 0}, new int[] {0, 0, 0, 0});
         handOver("all", "oooo", new int[] {1, 2, 3, 4}, new int[] {0, 0, 0, 0});
-        BowHouse gone = Checks.told("member a out minds 5 votes 1;member b out minds 6 votes 1;member c in minds 0 votes 1;clause p sharp 0;winds minds;cock 30;");
+        BowHouse gone = Houses.told("member a out minds 5 votes 1;member b out minds 6 votes 1;member c in minds 0 votes 1;clause p sharp 0;winds minds;cock 30;");
         gone.read(0, false);
         gone.change();
         gone.change();
@@ -293,7 +295,7 @@ public final class ActEdges {
             outs |= out ? 1 << i : 0;
             b.append("member m").append((char) ('a' + i)).append(out ? " out" : " in").append(" minds ").append(i + 1).append(" votes 0;");
         }
-        BowHouse x = Checks.told(b + "clause p sharp 0;winds minds;cock 30;");
+        BowHouse x = Houses.told(b + "clause p sharp 0;winds minds;cock 30;");
         x.read(0, false);
         for (int i = 0; i < 4; i++) s.due(what + ": ahead of it, " + i, x.member(i, 3), ahead[i]);
         s.due(what + ": who is out", x.change(), 15 - outs);
@@ -315,7 +317,7 @@ public final class ActEdges {
     private void undoing() {
         s.terms();
         s.says("UNDO takes back the latest ACT that was not, REDO does that again which was taken back last (till another ACT);");
-        BowHouse x = Checks.told(STEADY + "draw 1;");
+        BowHouse x = Houses.told(STEADY + "draw 1;");
         x.read(0, false);
         x.read(1, true);
         x.oil(0);
@@ -341,9 +343,21 @@ public final class ActEdges {
         s.due("the change again", x.outs(), 2);
         s.due("b has a's", x.member(1, 3), 1);
 
+        BowHouse lost = Houses.told(STEADY + "quota 9;");
+        s.due("lost", lost.read(0, false), 0);
+        lost.change();
+        lost.undo();
+        s.due("lost still", lost.about(3), 0);
+        s.due("read still", lost.about(2), 1);
+        BowHouse seven = Houses.told(Houses.members(7, "out", 1) + "clause p sharp 0;winds 5;");
+        seven.read(0, false);
+        seven.oil(6);
+        seven.undo();
+        s.due("the last of seven", seven.member(6, 3), 5);
+
         s.says("40 at most are kept, the oldest go.");
         for (int n = 39; n <= 42; n++) {
-            BowHouse y = Checks.told(STEADY);
+            BowHouse y = Houses.told(STEADY);
             y.read(0, false);
             y.read(1, false);
             for (int i = 2; i < n; i++) y.change();
@@ -354,7 +368,7 @@ public final class ActEdges {
             s.due("acts redone of " + n, redoAll(y), Math.min(n, 40));
             s.due("all read again", y.about(2), 3);
         }
-        BowHouse z = Checks.told(STEADY);
+        BowHouse z = Houses.told(STEADY);
         for (int i = 0; i < 83; i++) {
             if (i == 0 || i == 44 || i == 80) z.read(i / 40, false);
             else z.change();
@@ -368,7 +382,7 @@ public final class ActEdges {
     private void standing() {
         s.promise(6);
         s.says("Of a MEMBER what 0: 1 if OUT, else 0, 1: minds, 2: votes, 3: NOTCHES;");
-        BowHouse x = Checks.told(Houses.members(6, "in", 3) + "member z out minds 9 votes 8;" + Houses.clauses(6, 20));
+        BowHouse x = Houses.told(Houses.members(6, "in", 3) + "member z out minds 9 votes 8;" + Houses.clauses(6, 20));
         x.read(5, true);
         int[] last = {1, 9, 8, 7};
         int[] first = {0, 0, 3, 0};
@@ -413,7 +427,7 @@ public final class ActEdges {
 
     /** One who has an act to undo and one to redo. */
     private static BowHouse between() {
-        BowHouse x = Checks.told(STEADY + "draw 1;");
+        BowHouse x = Houses.told(STEADY + "draw 1;");
         x.read(0, false);
         x.oil(0);
         x.oil(2);
@@ -425,12 +439,8 @@ public final class ActEdges {
     private void doing() {
         s.promise(9);
         s.says("A READING: 1 if it is CARRIED, else 0;");
-        BowHouse x = Checks.told(STEADY + "quota 7;cock");
-        s.due("a text cut off", x.fault(0), 2);
-        Checks.tell(x, STEADY + "quota 7;");
-        s.due("carried", x.read(2, false), 1);
-        Checks.tell(x, STEADY + "quota 8;");
-        s.due("lost", x.read(2, false), 0);
+        s.due("carried", Houses.told(STEADY + "quota 7;").read(2, false), 1);
+        s.due("lost", Houses.told(STEADY + "quota 8;").read(2, false), 0);
         s.says("NONE, doing nothing, if it is READ, or there is none such.");
         BowHouse y = between();
         String before = Houses.all(y);
@@ -475,13 +485,13 @@ public final class ActEdges {
 
         s.promise(11);
         s.says("A CHANGE: who is OUT then, as bits;");
-        BowHouse v = Checks.told("member a out minds 1 votes 1;");
+        BowHouse v = Houses.told("member a out minds 1 votes 1;");
         s.due("nobody", v.change(), 0);
         s.due("a", v.change(), 1);
-        s.due("all seven", Checks.told(Houses.members(7, "in", 1)).change(), 127);
-        s.due("b", Checks.told(STEADY).change(), 2);
+        s.due("all seven", Houses.told(Houses.members(7, "in", 1)).change(), 127);
+        s.due("b", Houses.told(STEADY).change(), 2);
         s.says("NONE, doing nothing, without MEMBERS.");
-        BowHouse u = Checks.told(Houses.clauses(2, 1) + "quota 0;");
+        BowHouse u = Houses.told(Houses.clauses(2, 1) + "quota 0;");
         u.read(0, false);
         u.read(1, false);
         u.undo();
@@ -501,7 +511,7 @@ public final class ActEdges {
     private void backAndForth() {
         s.promise(12);
         s.says("UNDO: true;");
-        BowHouse x = Checks.told(STEADY + "puns 100;");
+        BowHouse x = Houses.told(STEADY + "puns 100;");
         x.read(1, false);
         String first = Houses.all(x);
         x.read(0, false);
@@ -516,7 +526,7 @@ public final class ActEdges {
 
         s.promise(13);
         s.says("REDO: true;");
-        BowHouse y = Checks.told(STEADY + "puns 100;draw 3;");
+        BowHouse y = Houses.told(STEADY + "puns 100;draw 3;");
         y.read(1, true);
         y.change();
         String last = Houses.all(y);
@@ -537,7 +547,7 @@ public final class ActEdges {
     private void boxes() {
         s.promise(50);
         s.says("NOTCHES, who is OUT, what is READ, what is CARRIED, the SEED are kept in a BOX 0 .. 2: how many are READ;");
-        BowHouse x = Checks.told(STEADY + "puns 100;draw 3;quota 6;");
+        BowHouse x = Houses.told(STEADY + "puns 100;draw 3;quota 6;");
         s.due("box 0", x.image(0), 0);
         x.read(0, false);
         x.read(2, false);
@@ -575,6 +585,11 @@ public final class ActEdges {
         x.oil(0);
         s.due("what is done then is not in the box", x.back(1), 2);
         s.due("a", x.member(0, 3), 4);
+        BowHouse lost = Houses.told(STEADY + "quota 9;");
+        lost.read(1, false);
+        s.due("read, though lost", lost.image(0), 1);
+        s.due("read, though lost", lost.back(0), 1);
+        s.due("lost", lost.about(3), 0);
         s.says("NONE, doing nothing, if nothing was.");
         for (int box = 0; box < 3; box++) {
             BowHouse y = between();
@@ -591,7 +606,7 @@ public final class ActEdges {
         s.promise(52);
         s.says("What 0: MEMBERS, 1: CLAUSES, 2: READ ones, 3: CARRIED ones, both as bits, 4: the SEED, 5: ACTS that can be undone, 6: redone,"
                 + " 7: what is HEARD, 8: the TIME, 9: bytes on the TAPE, 10: units, 11: numbers that lie there, 12: cock, 13: quota, 14: puns in 100.");
-        BowHouse x = Checks.told(STEADY + "quota 4;puns 17;draw 11;");
+        BowHouse x = Houses.told(STEADY + "quota 4;puns 17;draw 11;");
         x.read(1, false);
         x.oil(2);
         x.oil(2);
@@ -605,7 +620,7 @@ public final class ActEdges {
         x.feed(1, 2, 3, 4, 5);
         int[] want = {3, 3, 2, 2, 578, 3, 1, 2, 6, 20, 1, 2, 30, 4, 17};
         for (int i = 0; i < want.length; i++) s.due("about(" + i + ")", x.about(i), want[i]);
-        BowHouse full = Checks.told(Houses.members(7, "in", 1) + Houses.clauses(6, 0));
+        BowHouse full = Houses.told(Houses.members(7, "in", 1) + Houses.clauses(6, 0));
         for (int c = 0; c < 6; c++) full.read(c, false);
         s.due("all seven", full.about(0), 7);
         s.due("all six", full.about(1), 6);

@@ -11,7 +11,7 @@ public final class HearsayEdges {
 
     /** How many fit, in a new house, if that alone is heard. */
     private static int fitsBy(String text, int n, int notches, boolean is) {
-        BowHouse x = Checks.told(text);
+        BowHouse x = Houses.told(text);
         x.heard(n, notches, is);
         return x.fits(0);
     }
@@ -19,7 +19,7 @@ public final class HearsayEdges {
     private void times() {
         s.terms();
         s.says("HEARD, 30 at most, is TOLD at a TIME (0 at first, goes on), UNTOLD at a later one or the same,");
-        BowHouse x = Checks.told(THIRDS);
+        BowHouse x = Houses.told(THIRDS);
         s.due("the time at first", x.about(8), 0);
         for (int i = 0; i < 30; i++) s.due("heard " + i, x.heard(1, 9, false), i);
         s.due("30", x.about(7), 30);
@@ -31,7 +31,7 @@ public final class HearsayEdges {
         s.due("the time goes on", x.about(8), 1);
 
         s.says("As known at k that counts that was TOLD at k or before, not UNTOLD at k or before.");
-        BowHouse y = Checks.told(THIRDS);
+        BowHouse y = Houses.told(THIRDS);
         y.later(5);
         y.heard(1, 2, true);
         s.due("ahead of it", y.fits(4), 21);
@@ -53,7 +53,7 @@ public final class HearsayEdges {
         s.due("the least time", y.fits(Integer.MIN_VALUE), 21);
         s.due("-1", y.fits(-1), 21);
         s.due("the greatest", y.fits(Integer.MAX_VALUE), 12);
-        BowHouse z = Checks.told(THIRDS);
+        BowHouse z = Houses.told(THIRDS);
         z.heard(1, 2, true);
         s.due("at the first time", z.fits(0), 15);
         s.due("ahead of that", z.fits(-1), 21);
@@ -62,7 +62,7 @@ public final class HearsayEdges {
     private void whatIsHeard() {
         s.terms();
         s.says("of the house as it was told (if the last MEMBER was OUT; nothing READ, no puns), but for what the last MEMBER minds, which is not known:");
-        BowHouse x = Checks.told("member a in minds 0 votes 0;member z out minds 5 votes 0;clause p sharp 0;clause q sharp 0;winds minds/3*(read=0);cock 30;");
+        BowHouse x = Houses.told("member a in minds 0 votes 0;member z out minds 5 votes 0;clause p sharp 0;clause q sharp 0;winds minds/3*(read=0);cock 30;");
         x.read(1, false);
         x.read(0, false);
         x.change();
@@ -71,7 +71,7 @@ public final class HearsayEdges {
         s.due("what he minds does not matter", fitsBy(THIRDS.replace("minds 5", "minds 0"), 1, 2, true), 15);
         s.due("no puns", fitsBy(THIRDS + "puns 100;", 1, 1, false), 3);
         s.due("the last of two who are out", fitsBy("member a out minds 9 votes 0;" + THIRDS.substring(THIRDS.indexOf("member z")), 1, 2, true), 15);
-        BowHouse y = Checks.told("member z out minds 5 votes 0;member a in minds 0 votes 0;clause p sharp 0;winds minds/3;cock 30;");
+        BowHouse y = Houses.told("member z out minds 5 votes 0;member a in minds 0 votes 0;clause p sharp 0;winds minds/3;cock 30;");
         y.change();
         s.due("the last was in, though he is out now", y.heard(1, 2, true), -1);
 
@@ -92,6 +92,8 @@ public final class HearsayEdges {
         s.due("9 at most", fitsBy(sixth, 6, 9, true), 12);
         s.due("no more", fitsBy(sixth, 6, 10, true), 0);
         s.due("plain", fitsBy("member z out minds 5 votes 0;clause p sharp 0;winds minds*falling;", 1, 1, true), 0);
+        s.due("plain: 1", fitsBy("member z out minds 5 votes 0;clause p sharp 0;winds 1+falling;", 1, 1, true), 21);
+        s.due("plain: not 2", fitsBy("member z out minds 5 votes 0;clause p sharp 0;winds 1+falling;", 1, 2, true), 0);
         s.due("no clauses", fitsBy("member z out minds 5 votes 0;", 6, 0, true), 21);
         String off = "member z out minds 0 votes 0;clause p sharp 0;clause q sharp 0;winds minds;cock 5;";
         s.due("off at 5: 1 to 4", fitsBy(off, 1, 1, true), 4);
@@ -102,7 +104,7 @@ public final class HearsayEdges {
     private void fitsAndAsk() {
         s.terms();
         s.says("FITS: what he may mind (0 .. 20) by which all that counts is so.");
-        BowHouse x = Checks.told(THIRDS);
+        BowHouse x = Houses.told(THIRDS);
         s.due("all", x.fits(0), 21);
         s.due("from 0", x.sure(0, 0), 0);
         s.due("to 20", x.sure(1, 0), 20);
@@ -115,23 +117,23 @@ public final class HearsayEdges {
         s.due("what can't be", x.fits(0), 0);
 
         s.says("ASK: the n of which to know how many NOTCHES he had behind these would leave the fewest of these at the most; of like ones the least.");
-        BowHouse y = Checks.told(THIRDS);
+        BowHouse y = Houses.told(THIRDS);
         s.due("behind one", y.ask(0, 0), 1);
         s.due("three", y.ask(1, 0), 3);
         y.heard(1, 6, true);
         s.due("nothing more to be learnt: the least", y.ask(0, 0), 0);
         s.due("three", y.ask(1, 0), 3);
-        BowHouse six = Checks.told("member z out minds 5 votes 0;" + Houses.clauses(6, 0) + "winds minds/3;cock 30;");
+        BowHouse six = Houses.told("member z out minds 5 votes 0;" + Houses.clauses(6, 0) + "winds minds/3;cock 30;");
         s.due("behind one as well as behind two", six.ask(0, 0), 1);
         s.due("three", six.ask(1, 0), 3);
-        BowHouse last = Checks.told("member z out minds 5 votes 0;" + Houses.clauses(5, 0) + "clause z sharp 1;winds sharp*minds;cock 30;");
+        BowHouse last = Houses.told("member z out minds 5 votes 0;" + Houses.clauses(5, 0) + "clause z sharp 1;winds sharp*minds;cock 30;");
         s.due("behind all six", last.ask(0, 0), 6);
         s.due("9 to 20", last.ask(1, 0), 12);
         // Behind one: 0 to 8 are told apart, 9 to 20 are not. Behind two: 9 to 17, too; 18 to 20 are not.
-        BowHouse two = Checks.told("member z out minds 5 votes 0;" + Houses.clauses(2, 0) + "winds (read=0)*minds+(read=1)*(minds>9)*(minds-9);cock 30;");
+        BowHouse two = Houses.told("member z out minds 5 votes 0;" + Houses.clauses(2, 0) + "winds (read=0)*minds+(read=1)*(minds>9)*(minds-9);cock 30;");
         s.due("behind two", two.ask(0, 0), 2);
         s.due("18 to 20", two.ask(1, 0), 3);
-        BowHouse none = Checks.told("member z out minds 5 votes 0;");
+        BowHouse none = Houses.told("member z out minds 5 votes 0;");
         s.due("no clauses", none.ask(0, 0), 0);
         s.due("all are left", none.ask(1, 0), 21);
     }
@@ -139,7 +141,7 @@ public final class HearsayEdges {
     private void hearing() {
         s.promise(44);
         s.says("A HEARD (n 0 .. 6, NOTCHES 0 .. 99): its number;");
-        BowHouse x = Checks.told(THIRDS);
+        BowHouse x = Houses.told(THIRDS);
         s.due("the first", x.heard(0, 0, true), 0);
         s.due("the second", x.heard(6, 99, false), 1);
         s.due("two", x.about(7), 2);
@@ -154,14 +156,14 @@ public final class HearsayEdges {
         s.due("nothing done", x.fits(0), 21);
         x.untell(3);
         s.due("nor behind an untelling", x.heard(1, 9, true), -1);
-        BowHouse y = Checks.told("member z out minds 5 votes 0;member a in minds 0 votes 0;clause p sharp 0;");
+        BowHouse y = Houses.told("member z out minds 5 votes 0;member a in minds 0 votes 0;clause p sharp 0;");
         s.due("the last is in", y.heard(0, 0, true), -1);
         s.due("nothing is heard", y.about(7), 0);
         s.due("nobody", new BowHouse().heard(0, 0, true), -1);
 
         s.promise(45);
         s.says("It is UNTOLD: true;");
-        BowHouse z = Checks.told(THIRDS);
+        BowHouse z = Houses.told(THIRDS);
         z.heard(1, 2, true);
         z.heard(1, 9, true);
         s.due("none fits", z.fits(0), 0);
@@ -188,6 +190,16 @@ public final class HearsayEdges {
         s.says("NONE, doing nothing, for another number, or if it would be above 100,000.");
         for (int by : new int[] {-1, 1001, 1002, Integer.MAX_VALUE, Integer.MIN_VALUE}) s.due("by " + by, x.later(by), -1);
         s.due("nothing done", x.about(8), 1001);
+        for (int time = 99999; time <= 100000; time++) {
+            BowHouse late = Houses.told(THIRDS);
+            for (int i = 0; i < 99; i++) late.later(1000);
+            late.later(time - 99000);
+            late.heard(1, 2, true);
+            s.due("told at " + time, late.fits(time), 15);
+            s.due("untold at " + time, late.untell(0), true);
+            s.due("already at " + time, late.untell(0), false);
+            s.due("counts no more at " + time, late.fits(time), 21);
+        }
         for (int i = 0; i < 98; i++) x.later(1000);
         s.due("99,001", x.about(8), 99001);
         s.due("100,001", x.later(1000), -1);
@@ -208,12 +220,12 @@ public final class HearsayEdges {
     private void answers() {
         s.promise(47);
         s.says("FITS: how many (0 if the last MEMBER was not told as OUT, or there are none).");
-        BowHouse in = Checks.told("member z out minds 5 votes 0;member a in minds 0 votes 0;clause p sharp 0;");
+        BowHouse in = Houses.told("member z out minds 5 votes 0;member a in minds 0 votes 0;clause p sharp 0;");
         s.due("the last was in", in.fits(0), 0);
         in.change();
         s.due("as told", in.fits(0), 0);
         s.due("nobody", new BowHouse().fits(0), 0);
-        BowHouse x = Checks.told(THIRDS);
+        BowHouse x = Houses.told(THIRDS);
         s.due("all", x.fits(0), 21);
         x.change();
         s.due("as told", x.fits(0), 21);
@@ -224,14 +236,22 @@ public final class HearsayEdges {
         x.heard(1, 6, false);
         s.due("least", x.sure(0, 0), 3);
         s.due("greatest", x.sure(1, 0), 17);
-        BowHouse y = Checks.told("member z out minds 5 votes 0;clause p sharp 0;winds minds=20;cock 30;");
+        BowHouse y = Houses.told("member z out minds 5 votes 0;clause p sharp 0;winds minds=20;cock 30;");
         y.heard(1, 1, true);
         s.due("20", y.sure(0, 0), 20);
         s.due("20", y.sure(1, 0), 20);
-        BowHouse z = Checks.told("member z out minds 5 votes 0;clause p sharp 0;winds minds=0;cock 30;");
+        BowHouse z = Houses.told("member z out minds 5 votes 0;clause p sharp 0;winds minds=0;cock 30;");
         z.heard(1, 1, true);
         s.due("0", z.sure(0, 0), 0);
         s.due("0", z.sure(1, 0), 0);
+        BowHouse w = Houses.told(THIRDS);
+        w.later(7);
+        w.heard(1, 2, true);
+        w.heard(1, 4, false);
+        for (int k = 6; k <= 8; k++) {
+            s.due("least at " + k, w.sure(0, k), k < 7 ? 0 : 6);
+            s.due("greatest at " + k, w.sure(1, k), k < 7 ? 20 : 11);
+        }
         s.says("NONE if none FITS, or for another what.");
         for (int what : Houses.wrong(2)) s.due("what " + what, x.sure(what, 0), -1);
         x.heard(1, 6, true);
@@ -243,17 +263,19 @@ public final class HearsayEdges {
 
         s.promise(49);
         s.says("ASK what 0: n (0 .. 6), 1: how many are left at the most;");
-        BowHouse w = Checks.told(THIRDS);
-        w.later(2);
-        w.heard(1, 6, true);
-        s.due("n as known ahead of it", w.ask(0, 1), 1);
-        s.due("left", w.ask(1, 1), 3);
-        s.due("n as known at it", w.ask(0, 2), 0);
-        s.due("left", w.ask(1, 2), 3);
+        BowHouse later = Houses.told(THIRDS);
+        later.later(2);
+        later.heard(1, 6, true);
+        s.due("n as known ahead of it", later.ask(0, 1), 1);
+        s.due("left", later.ask(1, 1), 3);
+        s.due("n as known at it", later.ask(0, 2), 0);
+        s.due("left", later.ask(1, 2), 3);
         s.due("one is left of one", y.ask(1, 0), 1);
         s.due("n", y.ask(0, 0), 0);
+        s.due("one is left, 0", z.ask(1, 0), 1);
+        s.due("n", z.ask(0, 0), 0);
         s.says("NONE if none FITS, or for another what.");
-        for (int what : Houses.wrong(2)) s.due("what " + what, w.ask(what, 0), -1);
+        for (int what : Houses.wrong(2)) s.due("what " + what, later.ask(what, 0), -1);
         for (int k = 0; k < 2; k++) {
             s.due("none fits", x.ask(k, 0), -1);
             s.due("the last was in", in.ask(k, 0), -1);

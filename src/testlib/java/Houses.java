@@ -2,9 +2,11 @@
 public final class Houses {
     private Houses() { }
 
-    /** So many times this text. */
-    public static String times(String part, int n) {
-        return part.repeat(n);
+    /** A new object with this house: a text with a fault would let tests pass for nothing. */
+    public static BowHouse told(String text) {
+        BowHouse x = Checks.told(text);
+        if (x.fault(0) != 0) throw new IllegalArgumentException("fault " + x.fault(0) + " at " + x.fault(1) + " of " + text);
+        return x;
     }
 
     /** So many members "ma", "mb", ..., all on that side, of so many votes each. */
@@ -35,14 +37,14 @@ public final class Houses {
         }
         b.append(clauses(6, 0)).append("cock 30;winds (read<3)*(votes+(minds>read))+(read>2)*(")
                 .append(winds).append(");").append(more);
-        BowHouse x = Checks.told(b.toString());
+        BowHouse x = told(b.toString());
         for (int c = 0; c < 3; c++) x.read(c, false);
         return x;
     }
 
     /** By how much one of 20 notches, 3 clauses being read, winds at a plain clause by this formula. */
     public static int value(String formula) {
-        BowHouse x = Checks.told("member a out minds 3 votes 2;member b in minds 4 votes 5;clause p sharp 9;clause q sharp 9;clause r sharp 9;"
+        BowHouse x = told("member a out minds 3 votes 2;member b in minds 4 votes 5;clause p sharp 9;clause q sharp 9;clause r sharp 9;"
                 + "clause s sharp 7;cock 30;winds (read<2)*9+(read=2)*2+(read=3)*(" + formula + ");");
         for (int c = 0; c < 3; c++) x.read(c, false);
         return x.winds(0, 3, false);

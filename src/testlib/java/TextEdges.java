@@ -1,3 +1,5 @@
+import java.nio.charset.StandardCharsets;
+
 /** The boundaries of a text: its tokens, its limits, its faults; and promises 1 to 5. */
 public final class TextEdges {
     private static final String WORDS = "member in out minds votes clause sharp winds cock quota puns draw or and not notch falling read";
@@ -49,6 +51,10 @@ public final class TextEdges {
         s.due("no line at all", Checks.tell(x, ""), 0);
         s.due("1,600 bytes", Checks.tell(x, " ".repeat(1593) + "cock 7;"), 0);
         s.due("to the last byte", x.about(12), 7);
+        s.due("1,600 bytes, a word the last", Checks.tell(x, " ".repeat(1596) + "cock"), -1);
+        s.due("its place, the end", x.fault(1), 1600);
+        s.due("1,600 bytes, a number the last", Checks.tell(x, " ".repeat(1594) + "cock 7"), -1);
+        s.due("its place, the end", x.fault(1), 1600);
         s.due("1,600 bytes, the last of which is wrong", Checks.tell(x, " ".repeat(1592) + "cock 7;$"), -1);
         s.due("its place", x.fault(1), 1599);
         s.due("lines in any order, mixed", Checks.tell(x, "draw 1;clause a sharp 1;member a in minds 1 votes 1;puns 1;clause b sharp 1;"
@@ -164,7 +170,7 @@ public final class TextEdges {
         fault("draw ;", 2, 5);
         fault("draw :", 1, 5);
         fault("draw 1:", 1, 6);
-        BowHouse x = Checks.told("draw 0998;");
+        BowHouse x = Houses.told("draw 0998;");
         s.due("four digits, 0 the first", x.about(4), 998);
         formula("9999 - 9990", 9);
         s.says("signs ; ( ) < > = + - * / %;");
@@ -209,16 +215,16 @@ public final class TextEdges {
 
     /** A line of one number: the least and the most that are taken, and the number if it is not told. */
     private void once(String word, int about, int least, int most, int untold) {
-        s.due(word + " untold", Checks.told("").about(about), untold);
-        s.due(word + " " + least, Checks.told(word + " " + least + ";").about(about), least);
-        s.due(word + " " + most, Checks.told(word + " " + most + ";").about(about), most);
+        s.due(word + " untold", Houses.told("").about(about), untold);
+        s.due(word + " " + least, Houses.told(word + " " + least + ";").about(about), least);
+        s.due(word + " " + most, Houses.told(word + " " + most + ";").about(about), most);
         if (least > 0) fault(word + " " + (least - 1) + ";", 4, word.length() + 1);
         fault(word + " " + (most + 1) + ";", 4, word.length() + 1);
         fault(word + " 9999;", 4, word.length() + 1);
         String line = word + " " + least + ";";
         fault(line + " " + line, 2, line.length() + 1);
         fault(line + word, 2, line.length());
-        BowHouse x = Checks.told(line);
+        BowHouse x = Houses.told(line);
         s.due(word + " in the next text", Checks.tell(x, word + " " + most + ";"), 0);
         s.due(word + " of the next text", x.about(about), most);
     }
@@ -229,7 +235,7 @@ public final class TextEdges {
         String seven = Houses.members(7, "out", 1);
         s.due("7", Checks.tell(new BowHouse(), seven), 7);
         fault(seven + "member h in minds 0 votes 0;", 2, seven.length());
-        BowHouse x = Checks.told("member a in minds 0 votes 9;member b in minds 9 votes 0;");
+        BowHouse x = Houses.told("member a in minds 0 votes 9;member b in minds 9 votes 0;");
         s.due("minds 0", x.member(0, 1), 0);
         s.due("minds 9", x.member(1, 1), 9);
         s.due("votes 9", x.member(0, 2), 9);
@@ -238,12 +244,12 @@ public final class TextEdges {
         fault("member a in minds 9 votes 10;", 4, 26);
         s.says("6 CLAUSES (sharp 0 .. 20), numbered as told, each sort by itself;");
         String six = Houses.clauses(6, 20);
-        BowHouse y = Checks.told(six);
+        BowHouse y = Houses.told(six);
         s.due("6", y.about(1), 6);
         s.due("sharp 20", y.clause(5, 0), 20);
         fault(six + "clause g sharp 0;", 2, six.length());
         fault("clause a sharp 21;", 4, 15);
-        BowHouse z = Checks.told("clause a sharp 0;member a in minds 7 votes 1;clause b sharp 5;member b in minds 8 votes 2;");
+        BowHouse z = Houses.told("clause a sharp 0;member a in minds 7 votes 1;clause b sharp 5;member b in minds 8 votes 2;");
         s.due("clause 0", z.clause(0, 0), 0);
         s.due("clause 1", z.clause(1, 0), 5);
         s.due("member 0", z.member(0, 1), 7);
@@ -256,27 +262,34 @@ public final class TextEdges {
         once("draw", 4, 0, 999, 0);
         fault("winds 1;winds 1;", 2, 8);
         fault("winds 1;cock 1;winds", 2, 15);
-        s.due("winds in the next text", Checks.tell(Checks.told("winds 1;"), "winds 2;"), 0);
+        s.due("winds in the next text", Checks.tell(Houses.told("winds 1;"), "winds 2;"), 0);
     }
 
     private void units() {
         s.terms();
         s.says("60 units in all, 30 in one e");
-        String thirty = "winds 1" + Houses.times("+1", 29);
-        s.due("30 units", Checks.told(thirty + ";").about(10), 30);
+        String thirty = "winds 1" + "+1".repeat(29);
+        s.due("30 units", Houses.told(thirty + ";").about(10), 30);
         fault(thirty + "+1;", 2, thirty.length() + 1);
         fault(thirty + "*sharp;", 2, thirty.length() + 1);
         fault(thirty + " or not 1;", 2, thirty.length() + 8);
-        String braced = "winds 1" + Houses.times("+1", 27) + "+(1";
-        s.due("30 units, a ( e ) and what is in it among them", Checks.told(braced + ");").about(10), 30);
+        String braced = "winds 1" + "+1".repeat(27) + "+(1";
+        s.due("30 units, a ( e ) and what is in it among them", Houses.told(braced + ");").about(10), 30);
         fault(braced + "+1);", 2, braced.length() + 1);
-        s.due("no units without winds", Checks.told("cock 5;").about(10), 0);
-        s.due("one", Checks.told("winds not not 1;").about(10), 1);
-        s.due("signs are no units", Checks.told("winds 1<2 and 3>4 or not 5=6;").about(10), 6);
+        s.due("30 units count, the last one too", Houses.told("member a out minds 0 votes 0;clause p sharp 0;winds 0" + "+0".repeat(28)
+                + "+7;").winds(0, 0, false), 7);
+        // 7 times not of 0 is 1, of 1 is 0: no formula has more to be done.
+        String nots = "not ".repeat(7);
+        String longest = "winds " + (nots + "0 and ").repeat(29) + nots;
+        s.due("the longest formula of all", Houses.told("member a out minds 0 votes 0;clause p sharp 0;" + longest + "0;").winds(0, 0, false), 1);
+        s.due("its last unit", Houses.told("member a out minds 0 votes 0;clause p sharp 0;" + longest + "1;").winds(0, 0, false), 0);
+        s.due("no units without winds", Houses.told("cock 5;").about(10), 0);
+        s.due("one", Houses.told("winds not not 1;").about(10), 1);
+        s.due("signs are no units", Houses.told("winds 1<2 and 3>4 or not 5=6;").about(10), 6);
         s.says("(a unit ( e ), or a one behind not, within 6 others at most).");
         formula("(((((9))))) - 4", 5);
-        s.due("7 ( e )", Checks.told("winds (((((((9)))))));").about(10), 8);
-        s.due("7 not", Checks.told("winds not not not not not not not 9;").about(10), 1);
+        s.due("7 ( e )", Houses.told("winds (((((((9)))))));").about(10), 8);
+        s.due("7 not", Houses.told("winds not not not not not not not 9;").about(10), 1);
         fault("winds ((((((((9))))))));", 2, 13);
         fault("winds not not not not not not not not 9;", 2, 34);
         fine("winds not (not (not (not 9)));");
@@ -284,6 +297,11 @@ public final class TextEdges {
         fine("winds (not (not (not (9))));");
         fault("winds (not (not (not (not 9))));", 2, 22);
         fine("winds (((((((1)))))))+(((((((1)))))));");
+        for (String sign : "or and < > = + - * / %".split(" ")) {
+            fine("winds (((((((1 " + sign + " 1)))))));");
+            fault("winds (((((((1 " + sign + " (1))))))));", 2, 16 + sign.length());
+        }
+        fault("winds (((((((1 and not 1)))))));", 2, 19);
         fine("winds (((((((1)))))) or not not not not not not 1);");
         fault("winds (((((((1)))))) or not not not not not not not 1);", 2, 48);
     }
@@ -318,7 +336,7 @@ public final class TextEdges {
         fault("draw 1; draw 9999;", 2, 8);
         fault("winds 1; winds $;", 2, 9);
         s.says("a unit too many, what is within 7 others: at its first TOKEN, or the not);");
-        String thirty = "winds 1" + Houses.times("+1", 29);
+        String thirty = "winds 1" + "+1".repeat(29);
         fault(thirty + "+(1);", 2, thirty.length() + 1);
         fault(thirty + "+$", 1, thirty.length() + 1);
         fault(thirty + "+9999;", 2, thirty.length() + 1);
@@ -332,13 +350,25 @@ public final class TextEdges {
         fine("member a in minds 1 votes 1;clause a sharp 1;");
         fine("member a in minds 1 votes 1;member aa in minds 1 votes 1;member aaaaaaaa in minds 1 votes 1;member aaaaaaab in minds 1 votes 1;");
         fault("member abcdefgh in minds 1 votes 1;member abcdefgh", 3, 42);
-        s.due("in the next text", Checks.tell(Checks.told("member a in minds 1 votes 1;"), "member a in minds 1 votes 1;"), 1);
+        fine("clause p sharp 1;clause ap sharp 1;clause pa sharp 1;clause aap sharp 1;clause bpaaaaaa sharp 1;clause apaaaaaa sharp 1;");
+        s.due("in the next text", Checks.tell(Houses.told("member a in minds 1 votes 1;"), "member a in minds 1 votes 1;"), 1);
         s.says("4 a number that can't be.");
         fault("cock 0000;", 4, 5);
         fault("quota 100", 4, 6);
         fault("puns 0101;", 4, 5);
         fault("clause a sharp 21 $", 4, 15);
         fault("member a in minds 10 minds", 4, 18);
+    }
+
+    /** A text of which the end is cut off again: nothing of that counts. */
+    private void cutOff(String text, int n, int which, int place) {
+        BowHouse x = new BowHouse();
+        int[] five = Checks.fiveNumbers(text.getBytes(StandardCharsets.ISO_8859_1), 0);
+        x.feed(five[0], five[1], five[2], five[3], five[4]);
+        x.end(n);
+        x.house();
+        s.due("fault(0) of " + text + " cut to " + n, x.fault(0), which);
+        s.due("fault(1) of " + text + " cut to " + n, x.fault(1), place);
     }
 
     private void tape() {
@@ -390,6 +420,11 @@ public final class TextEdges {
         z.feed(0x636f636b, 0x20373b63, 0x6f636b20, 0x383b2020, 0x20202020);
         s.due("none", z.end(0), 0);
         s.due("an empty text", z.house(), 0);
+        cutOff("cock 55;", 6, 2, 6);
+        cutOff("cock 5a;", 6, 2, 6);
+        cutOff("cock 5;quotaquota", 12, 2, 12);
+        cutOff("cock 5;abcdefghi", 15, 2, 7);
+        cutOff("cock 5;$", 7, 0, -1);
         s.due("cock", z.about(12), 10);
         s.says("NONE, doing nothing, if it has not so many, or n is below 0.");
         z.feed(0x636f636b, 0x20373b63, 0x6f636b20, 0x383b2020, 0x20202020);
@@ -408,7 +443,7 @@ public final class TextEdges {
 
     /** Something of all that a house() ends: acts done and undone, heard, lying, boxes, the time. */
     private static BowHouse busy() {
-        BowHouse x = Checks.told("member a out minds 3 votes 1;member b out minds 6 votes 2;" + Houses.clauses(3, 3) + "cock 9;quota 2;puns 100;draw 5;");
+        BowHouse x = Houses.told("member a out minds 3 votes 1;member b out minds 6 votes 2;" + Houses.clauses(3, 3) + "cock 9;quota 2;puns 100;draw 5;");
         x.read(0, false);
         x.image(0);
         x.read(1, true);
@@ -445,6 +480,27 @@ public final class TextEdges {
         s.due("an empty text", x.house(), 0);
         s.due("no members", x.about(0), 0);
         s.due("7 members", Checks.tell(x, Houses.members(7, "in", 0)), 7);
+
+        // The text ahead of the last one counts no more than that one.
+        String one = "member a out minds 0 votes 0;clause p sharp 9;";
+        BowHouse again = Houses.told(one + "member b out minds 9 votes 9;clause q sharp 9;winds not 9;cock 3;quota 4;puns 5;draw 6;");
+        Checks.tell(again, one + "winds not not 9;");
+        Checks.tell(again, one);
+        int[] plain = {1, 1, 0, 0, 0, 0, 0, 0, 0, 0, 0, 0, 10, 1, 0};
+        for (int i = 0; i < plain.length; i++) s.due("the third text's about(" + i + ")", again.about(i), plain[i]);
+        s.due("the third text's winds", again.winds(0, 0, false), 3);
+        Checks.tell(again, one + "winds not 9;");
+        Checks.tell(again, one);
+        Checks.tell(again, one + "winds 7;");
+        s.due("the sixth text's winds", again.winds(0, 0, false), 7);
+        Checks.tell(again, "member a in minds 0 votes 0;");
+        Checks.tell(again, "member a in minds 0 votes 0;");
+        s.due("who is out", again.outs(), 0);
+        BowHouse refused = Houses.told(one + "cock 3;");
+        Checks.tell(refused, one + "winds 5;member b in minds 1 votes 1;quota 7;puns 8;draw 9;$");
+        Checks.tell(refused, one);
+        for (int i = 0; i < plain.length; i++) s.due("behind a refused text about(" + i + ")", refused.about(i), plain[i]);
+        s.due("behind a refused text winds", refused.winds(0, 0, false), 3);
 
         s.says("NONE: a FAULT (all stays).");
         BowHouse y = busy();
